@@ -1397,7 +1397,7 @@ public final class SlipDrawer {
         }
     }
 
-    /** The tokens of a text and where they start, up to the first that is none. */
+    /** The tokens of a text and where they start; END or the first BAD one is the last. */
     private static final class Tokens {
         final Tape tape;
         final int[] tokens;
@@ -1428,14 +1428,6 @@ public final class SlipDrawer {
                 at = to;
                 gluedAt = isWhole ? to : NONE;
             }
-        }
-
-        int tokenAt(int i) {
-            return i >= 0 && i < count ? tokens[i] : BAD;
-        }
-
-        int startAt(int i) {
-            return i >= 0 && i < count ? starts[i] : NONE;
         }
 
         private int endOf(int from) {
@@ -1536,27 +1528,31 @@ public final class SlipDrawer {
 
         void readAll() {
             tokens.split();
-            token = tokens.tokenAt(0);
+            token = tokens.tokens[0];
             for (int i = 0; i < STATEMENTS_MOST && faultKind == 0 && token != END; i++) {
                 readStatement();
             }
             if (token != END) {
                 fail(FAULT_STATEMENTS);
             }
+            if (faultKind != 0) {
+                faultPlace = tokens.starts[at];
+            }
         }
 
-        /** The first fault counts alone: later ones come of it. */
+        /** The first fault counts alone: later ones come of it, and nothing is passed then. */
         private void fail(int kind) {
             if (faultKind == 0) {
                 faultKind = kind;
-                faultPlace = tokens.startAt(at);
             }
             token = BAD;
         }
 
         private void pass() {
-            at++;
-            token = tokens.tokenAt(at);
+            if (at + 1 < tokens.count) {
+                at++;
+                token = tokens.tokens[at];
+            }
         }
 
         private void passOnly(int wanted) {
