@@ -612,7 +612,9 @@ public final class SlipDrawer {
         }
         scripts[slot] = reader.script;
         for (int row = 0; row < rowCount; row++) {
-            rows[row].isWeighed[slot] = false;
+            if (rows[row] != null) {
+                rows[row].isWeighed[slot] = false;
+            }
         }
         return reader.script.count;
     }
@@ -623,7 +625,7 @@ public final class SlipDrawer {
             return null;
         }
         Meant meant = rows[row];
-        if (meant.wordsSeen != words.count) {
+        if (meant != null && meant.wordsSeen != words.count) {
             meant.wordsSeen = words.count;
             meant.forgetWeights();
             meant.listAll();

@@ -347,6 +347,11 @@ public final class PromisesTest {
         fault(twenty + "\u00ff", 5, 320);
         fault(twenty + ";", 5, 320);
         fault(twenty + " \n7", 5, 322);
+        String longer = "none 1 when gap = 12";
+        tape(x, longer);
+        x.end(longer.length() - 1);
+        due(7, "a text that goes on behind the tape's end", x.making(0), NONE);
+        due(9, "its fault is at the end", x.fault(1), longer.length() - 1);
         making(x, 0, "none");
         making(x, 0, "none 1 when all;");
         due(9, "a sound one behind a fault", x.fault(0), 0);
