@@ -125,13 +125,17 @@ final class Desk {
         return x.note(row);
     }
 
-    /** The tape is these bytes and the byte that an image of them ends with. */
-    static void imageTape(SlipDrawer x, String ahead) {
+    /** The byte that an image ends with, of those ahead of it. */
+    static int lastByte(String ahead) {
         int check = 7;
         for (int i = 0; i < ahead.length(); i++) {
             check = (3 * check + ahead.charAt(i)) % 251;
         }
-        tape(x, ahead + (char) check);
+        return check;
+    }
+
+    static void imageTape(SlipDrawer x, String ahead) {
+        tape(x, ahead + (char) lastByte(ahead));
     }
 
     static boolean on(SlipDrawer x, String ahead) {

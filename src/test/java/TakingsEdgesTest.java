@@ -229,21 +229,26 @@ public final class TakingsEdgesTest {
         }
     }
 
-    static void promise11_theFirstAndTheLastOfSixAreTaken() {
+    /** What a taking of six words with unlike onsets says. */
+    private static void ofSix(int kind, int place, int other, String want) {
         SlipDrawer x = Desk.rowOf("ba", "ca", "da", "fa", "ga", "ha");
-        for (int kind = EARLY; kind <= TRADE; kind++) {
-            Desk.due("kind " + kind, x.reals(0, kind, false), 15);
-        }
-        x.tell(0, Desk.find(x, 0, EARLY, 0, 5));
-        Desk.due("early", Desk.said(x), "ha ca da fa ga ha");
-        x.tell(0, Desk.find(x, 0, LATE, 5, 0));
-        Desk.due("late", Desk.said(x), "ba ca da fa ga ba");
-        x.tell(0, Desk.find(x, 0, SWAP, 0, 5));
-        Desk.due("swap", Desk.said(x), "ha ca da fa ga ba");
-        x.tell(0, Desk.find(x, 0, TRADE, 0, 5));
-        Desk.due("trade", Desk.said(x), "ha ca da fa ga ba");
-        x.tell(0, Desk.find(x, 0, SWAP, 4, 5));
-        Desk.due("neighbours", Desk.said(x), "ba ca da fa ha ga");
+        Desk.due("kind " + kind, x.reals(0, kind, false), 15);
+        x.tell(0, Desk.find(x, 0, kind, place, other));
+        Desk.due("kind " + kind + " at " + place + " with " + other, Desk.said(x), want);
+    }
+
+    static void promise11_theFirstAndTheLastOfSixAreTaken() {
+        ofSix(EARLY, 0, 5, "ha ca da fa ga ha");
+        ofSix(LATE, 5, 0, "ba ca da fa ga ba");
+        ofSix(SWAP, 0, 5, "ha ca da fa ga ba");
+        ofSix(TRADE, 0, 5, "ha ca da fa ga ba");
+    }
+
+    static void promise11_neighboursAreTaken() {
+        ofSix(EARLY, 4, 5, "ba ca da fa ha ha");
+        ofSix(LATE, 1, 0, "ba ba da fa ga ha");
+        ofSix(SWAP, 4, 5, "ba ca da fa ha ga");
+        ofSix(TRADE, 0, 1, "ca ba da fa ga ha");
     }
 
     static void promise11_likeOnsetsAreNotTaken() {
