@@ -96,6 +96,28 @@ public final class GaveEdgesTest {
         Desk.due("100 letters and blanks", x.ways(0, NONE), 0);
     }
 
+    // The class sorts out by a number in base 37 (mod 2 to the 64); these have like numbers.
+
+    static void promise17_anotherTextOfTheSameNumberIsNotSaid() {
+        SlipDrawer x = catHat("none 1 when all;", "nmnnnonnppnnlomlrlonlm");
+        Desk.due("ways", x.ways(0, NONE), 0);
+        odds(x, 0, 1);
+    }
+
+    static void promise17_twoTakingsOfTheSameNumberAreTwo() {
+        SlipDrawer x = Desk.rowOf("aaaaaaaa", "zaaaaaaa");
+        Desk.word(x, "fgdfdccc");
+        Desk.word(x, "ubceakcg");
+        Desk.hear(x, "fgdfdccc zaaaaaaa");
+        Desk.due("sense at 0", x.ways(0, 7), 1);
+        Desk.hear(x, "aaaaaaaa ubceakcg");
+        Desk.due("sense at 1", x.ways(0, 7), 1);
+        Desk.making(x, 0, "sense 1 when place = 0 and far = 8; sense 2 when place = 1 and far = 7; none 4 when all;");
+        odds(x, 2, 7);
+        Desk.hear(x, "fgdfdccc zaaaaaaa");
+        odds(x, 1, 7);
+    }
+
     static void promise17_aTakingWithoutAWeightIsAWayToo() {
         SlipDrawer x = catHat("none 1 when all;", "cat at");
         Desk.due("lost", x.ways(0, 8), 1);

@@ -243,6 +243,9 @@ public final class MakingsEdgesTest {
         faulty("none 1 when 1 ! 2;", 1, 14);
         faulty("none 1 when 1 < 2 < 3;", 1, 18);
         faulty("none 1 when < 2;", 1, 12);
+        faulty("none 1 when 1 2;", 1, 14);
+        faulty("none 1 when gap far;", 1, 16);
+        faulty("none 1 when (1) (2);", 1, 16);
         faulty("none 1 when 1 <;", 1, 15);
     }
 

@@ -353,6 +353,16 @@ public final class PartingEdgesTest {
         wish(x, 9, 0, 1);
     }
 
+    static void promise34_aWordThatComesLaterBringsItsSenseAlone() {
+        SlipDrawer x = Desk.rowOf("cat");
+        Desk.word(x, "at", 2, 5, 1);
+        Desk.making(x, 0, "near 1 when all; lost 1 when all;");
+        wish(x, 5, 1, 1);
+        Desk.word(x, "cot", 0, 7, 1);
+        wish(x, 5, 1, 2);
+        wish(x, 7, 1, 2);
+    }
+
     static void promise34_oddsAreInLowestTerms() {
         wish(senses("none 6 when all; trade 4 when all;"), 0, 2, 5);
     }

@@ -511,9 +511,29 @@ public final class TakingsEdgesTest {
         Desk.due("sh without sh", real(x, EARLY, 0, 1), 0);
     }
 
-    static void promise11_nineLettersAreNoWord() {
-        SlipDrawer x = Desk.rowOf("aeiouaei", "bat");
-        Desk.due("nine letters", real(x, EARLY, 0, 1), 0);
+    static void promise11_eightLettersMayBeAWordNineAreNone() {
+        SlipDrawer x = Desk.rowOf("length", "strain");
+        Desk.due("eight letters that are no word", real(x, EARLY, 0, 1), 0);
+        Desk.word(x, "strength", 1, 1, 1);
+        Desk.due("eight letters", real(x, EARLY, 0, 1), 1);
+        SlipDrawer y = Desk.rowOf("aeiouaei", "bat");
+        Desk.word(y, "baeiouae", 1, 1, 1);
+        Desk.due("nine letters, the first eight a word", real(y, EARLY, 0, 1), 0);
+    }
+
+    static void promise11_theFirstAndTheLastWordOfAllAreWords() {
+        SlipDrawer x = new SlipDrawer();
+        Desk.word(x, "hat", 1, 1, 1);
+        Desk.word(x, "cat");
+        Desk.word(x, "hot");
+        for (int i = 3; i < 29; i++) {
+            Desk.word(x, "xx" + (char) ('a' + i - 3), 2, 2, 1);
+        }
+        Desk.row(x, 1, 2);
+        Desk.due("hat is word 0", real(x, EARLY, 0, 1), 1);
+        Desk.due("cot is none yet", real(x, LATE, 1, 0), 0);
+        Desk.due("word 29", Desk.word(x, "cot", 1, 1, 1), 29);
+        Desk.due("cot is word 29", real(x, LATE, 1, 0), 1);
     }
 
     // ---- promise 11: heard

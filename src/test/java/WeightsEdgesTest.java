@@ -20,15 +20,15 @@ public final class WeightsEdgesTest {
         Desk.due(test, x.weight(0, 0, 0), want ? 1 : 0);
     }
 
-    /** What a fact is worth for a taking of the row cat dog ant, with cog and cot beside it. */
+    /** What a fact is worth for a taking of the row cat (3) dog (0) ant (1); 2 is cog, 4 is cot. */
     private static void fact(String name, int kind, int place, int other, int want) {
         SlipDrawer x = new SlipDrawer();
-        Desk.word(x, "cat", 0, 1, 1);
         Desk.word(x, "dog", 0, 1, 99);
         Desk.word(x, "ant", 1, 1, 30);
         Desk.word(x, "cog", 2, 2, 5);
+        Desk.word(x, "cat", 0, 1, 1);
         Desk.word(x, "cot", 0, 3, 42);
-        Desk.row(x, 0, 1, 2);
+        Desk.row(x, 3, 0, 1);
         StringBuilder text = new StringBuilder();
         for (String each : Model.KINDS) {
             text.append(each).append(" 100 + ").append(name).append(" when all;");
@@ -343,6 +343,11 @@ public final class WeightsEdgesTest {
         test("not all or all", true);
         test("not [all or all]", false);
         test("not 1 = 2 and all", true);
+        test("not 1 = 1", false);
+        test("not 1 < 2", false);
+        test("not 2 > 1", false);
+        test("not 2 < 1", true);
+        test("not 1 > 2", true);
         test("not all and all", false);
         test("not not all", true);
         test("not not not all", false);
@@ -388,9 +393,9 @@ public final class WeightsEdgesTest {
     }
 
     static void promise12_gapIs0IfOtherIsNoPlace() {
-        fact("gap", 5, 0, 1, 0);
+        fact("gap", 5, 0, 0, 0);
         fact("gap", 6, 0, 4, 0);
-        fact("gap", 7, 1, 0, 0);
+        fact("gap", 7, 1, 3, 0);
         fact("gap", 8, 1, NONE, 0);
     }
 
@@ -399,7 +404,7 @@ public final class WeightsEdgesTest {
         fact("place", 1, 1, 2, 1);
         fact("place", 2, 2, 0, 2);
         fact("place", 4, 0, 2, 0);
-        fact("place", 5, 1, 0, 1);
+        fact("place", 5, 1, 3, 1);
         fact("place", 8, 1, NONE, 1);
     }
 
@@ -408,9 +413,9 @@ public final class WeightsEdgesTest {
         fact("often", 2, 2, 0, 1);
         fact("often", 3, 0, 2, 30);
         fact("often", 4, 1, 2, 30);
-        fact("often", 5, 0, 1, 99);
+        fact("often", 5, 0, 0, 99);
         fact("often", 6, 0, 4, 42);
-        fact("often", 7, 1, 0, 1);
+        fact("often", 7, 1, 3, 1);
     }
 
     static void promise12_oftenOfALostOnsetIs0() {
@@ -422,7 +427,7 @@ public final class WeightsEdgesTest {
         fact("own", 1, 0, 1, 1);
         fact("own", 2, 2, 0, 30);
         fact("own", 3, 1, 2, 99);
-        fact("own", 5, 0, 1, 1);
+        fact("own", 5, 0, 0, 1);
         fact("own", 6, 0, 4, 1);
         fact("own", 8, 1, NONE, 99);
     }
@@ -434,9 +439,9 @@ public final class WeightsEdgesTest {
         fact("sort", 2, 2, 1, 0);
         fact("sort", 4, 0, 1, 1);
         fact("sort", 4, 0, 2, 0);
-        fact("sort", 5, 0, 1, 1);
+        fact("sort", 5, 0, 0, 1);
         fact("sort", 6, 0, 4, 1);
-        fact("sort", 7, 0, 1, 1);
+        fact("sort", 7, 0, 0, 1);
     }
 
     static void promise12_farIsThatWhichTakingTells() {

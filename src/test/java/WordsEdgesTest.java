@@ -378,6 +378,17 @@ public final class WordsEdgesTest {
         Desk.due("taken then", Desk.word(x, "dog", 0, 0, 99), 1);
     }
 
+    static void promise04_aRefusedWordLeavesNoLetters() {
+        SlipDrawer x = new SlipDrawer();
+        Desk.word(x, "scat", 0, 1, 1);
+        Desk.due("refused", Desk.word(x, "scats1"), NONE);
+        Desk.due("taken", Desk.word(x, "ca", 0, 2, 1), 1);
+        Desk.due("refused, for it is there", Desk.word(x, "scat"), NONE);
+        Desk.due("taken, the beginning of it", Desk.word(x, "sca", 0, 3, 1), 2);
+        Desk.row(x, 1);
+        Desk.due("takings of ca", Desk.takings(x, 0, NONE), "0 -1 -1 'ca'; 6 0 2 'sca'; 8 0 -1 'a';");
+    }
+
     static void promise04_aTakenWordEmptiesTheTape() {
         SlipDrawer x = new SlipDrawer();
         Desk.word(x, "cat");
